@@ -999,13 +999,19 @@ public final class HiddenDrawers {
 
         private final int[] sizes;
         private final int[] names = new int[NAMES];
+        // The standing that the names show: searches ask of one standing many times.
+        private int shown;
         private final int[] stack = new int[STACK];
 
         Rules(int[] partSizes) {
             sizes = partSizes;
         }
 
-        private void spread(int standing) {
+        private void show(int standing) {
+            if (standing == shown) {
+                return;
+            }
+            shown = standing;
             int rest = standing;
             for (int part = 0; part < PARTS; part++) {
                 names[part] = rest % PLACES;
@@ -1014,11 +1020,12 @@ public final class HiddenDrawers {
             names[TILT_NAME] = rest;
         }
 
-        private int gathered() {
+        private int gather() {
             int standing = names[TILT_NAME];
             for (int part = PARTS - 1; part >= 0; part--) {
                 standing = standing * PLACES + names[part];
             }
+            shown = standing;
             return standing;
         }
 
@@ -1027,7 +1034,7 @@ public final class HiddenDrawers {
             if (act < 0 || act >= ACTS) {
                 return NONE;
             }
-            spread(standing);
+            show(standing);
             if (act >= FIRST_TILT_ACT) {
                 return tilted(law, act - FIRST_TILT_ACT);
             }
@@ -1045,7 +1052,7 @@ public final class HiddenDrawers {
             }
             names[TILT_NAME] = tilt;
             setBy(law, causeOfTilt(tilt));
-            return gathered();
+            return gather();
         }
 
         private int pushed(Law law, int part, int on) {
@@ -1059,7 +1066,7 @@ public final class HiddenDrawers {
             }
             names[part] = place;
             setBy(law, causeOfPush(part, place));
-            return gathered();
+            return gather();
         }
 
         // A PART that wasn't told has size 0, and so no PLACE.
@@ -1080,7 +1087,7 @@ public final class HiddenDrawers {
                 return partsMoved(ahead, after);
             }
             boolean push = act < FIRST_TILT_ACT;
-            spread(after);
+            show(after);
             names[ON_NAME] = push ? act % 2 : 0;
             names[PART_NAME] = push ? act / 2 : NONE;
             return Math.max(0, Math.min(LOUDEST, valueOf(law, SOUND_RULE)));
@@ -1088,14 +1095,18 @@ public final class HiddenDrawers {
 
         private static int partsMoved(int ahead, int after) {
             int moved = 0;
+            int from = ahead;
+            int to = after;
             for (int part = 0; part < PARTS; part++) {
-                moved += placeIn(ahead, part) != placeIn(after, part) ? 1 : 0;
+                moved += from % PLACES != to % PLACES ? 1 : 0;
+                from /= PLACES;
+                to /= PLACES;
             }
             return moved;
         }
 
         int ballAfter(Law law, int standing, int ball) {
-            spread(standing);
+            show(standing);
             int tilt = names[TILT_NAME];
             int way = tilt == 0 ? 0 : tilt == 1 ? -1 : 1;
             int at = ball;
@@ -1111,13 +1122,17 @@ public final class HiddenDrawers {
         }
 
         boolean isOpen(Law law, int standing) {
-            spread(standing);
-            return law.has(OPEN_RULE) && valueOf(law, OPEN_RULE) != 0;
+            if (!law.has(OPEN_RULE)) {
+                return false;
+            }
+            show(standing);
+            return valueOf(law, OPEN_RULE) != 0;
         }
 
         private int valueOf(Law law, int rule) {
             int top = 0;
-            for (int i = law.ruleStarts[rule]; i < law.ruleEnds[rule]; i++) {
+            int end = law.ruleEnds[rule];
+            for (int i = law.ruleStarts[rule]; i < end; i++) {
                 int sign = law.code[i] - SIGNS;
                 if (sign < OR) {
                     if (top < STACK) {

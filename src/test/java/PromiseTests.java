@@ -157,12 +157,30 @@ public final class PromiseTests {
         lawful("open " + times(8, "not ") + "a=1 and " + times(8, "not ") + "a=1;");
         lawful("open not((((((( 1)))))))=-------1;");
         lawful("open a=1 and b=1" + times(37, " or a<b") + ";");
+        HiddenDrawers x = new HiddenDrawers();
+        x.part(2);
+        x.part(2);
+        tell(x, "when 0 1=2;with 1 to 1 set 0 to 1;tilt 1 set 0 to 1;do 3;open 1=1;stops 1=1;sound not");
+        tell(x, "sound 5*-((((((((");
+        due("a text behind faulty ones", tell(x, "do 1;when 1 -((((((1))))))*1=-1;"), 0);
+        x.by(0);
+        due("has nothing of them: when", x.act(1), 1);
+        x.act(0);
+        due("with, sound", x.act(3), 1);
+        due("tilt", x.act(13), 0);
+        due("stops", x.act(14) + x.now(1), 9);
+        due("open", x.now(2), 0);
+        due("do", x.played(0), NONE);
+        due("one step of it", x.about(3), 6);
     }
 
     private static void values() {
         comesTo("7-2-1", 4);
         comesTo("2+3*4", 14);
         comesTo("(2+3)*4", 20);
+        comesTo("2*(3+4)", 14);
+        comesTo("1+2*(3+4*(5-1))-(2-3)", 40);
+        comesTo("-(2+3)*(1+1)", -10);
         comesTo("7/2*2", 6);
         comesTo("-7/2", -3);
         comesTo("7/-2", -3);
@@ -185,6 +203,12 @@ public final class PromiseTests {
         holds("not not 1=1", 1);
         holds("1<1", 0);
         holds("1<=1", 1);
+        holds("1<=2", 1);
+        holds("2<=1", 0);
+        holds("2>=1", 1);
+        holds("1>=2", 0);
+        holds("not 1=1", 0);
+        holds("not 1=2", 1);
         holds("1>1", 0);
         holds("1>=1", 1);
         holds("1#1", 0);
@@ -229,6 +253,13 @@ public final class PromiseTests {
         faulty("open a=1 or;", 1, 11);
         faulty("open g=1;", 1, 5);
         faulty("open aa=1;", 1, 5);
+        faulty("open az=1;", 1, 5);
+        faulty("open aA=1;", 1, 5);
+        faulty("open aZ=1;", 1, 5);
+        faulty("open ` =1;", 1, 5);
+        faulty("open a{=1;", 1, 6);
+        faulty("open a@=1;", 1, 6);
+        faulty("open a[=1;", 1, 6);
         faulty("open set=1;", 1, 5);
         faulty("open a=1)", 1, 8);
         faulty("sound (1;", 1, 8);
@@ -249,6 +280,7 @@ public final class PromiseTests {
     private static void otherFaults() {
         faulty("when 6 a=1;", 2, 5);
         faulty("with 0 to 3 set 0 to 0;", 2, 10);
+        faulty("with 6 to 0 set 0 to 0;", 2, 5);
         faulty("with 0 to 0 set 6 to 0;", 2, 16);
         faulty("with 0 to 0 set 0 to 3;", 2, 21);
         faulty("tilt 3 set 0 to 0;", 2, 5);
@@ -259,6 +291,9 @@ public final class PromiseTests {
         faulty("sound 4294967296;", 2, 6);
         faulty("sound 18446744073709551616;", 2, 6);
         faulty("sound " + times(9, "("), 3, 14);
+        faulty("sound 1+1*" + times(9, "("), 3, 18);
+        faulty("sound -1+" + times(9, "("), 3, 17);
+        faulty("sound (1)+" + times(9, "("), 3, 18);
         faulty("sound " + times(9, "-") + "1;", 3, 14);
         faulty("open " + times(9, "not ") + "a=1;", 3, 37);
         faulty("open not -((((((( 1", 3, 16);
@@ -344,6 +379,16 @@ public final class PromiseTests {
         due("tilt: part -1, on 0; 0 at least", y.act(13), 0);
         due("tilt: part -1", desk("2", "sound 5+part-on;").act(13), 4);
         due("back: on 0", y.act(2), 4);
+        due("level: part -1", y.act(12), 0);
+        HiddenDrawers z = desk("222222", "sound 5+on+part;with 4 to 1 set 3 to 1;with 3 to 1 set 5 to 1;tilt 0 set 2 to 1;");
+        due("part 5", z.act(11), 9);
+        due("part 4", z.act(9), 9);
+        due("it sets 3", z.place(3), 1);
+        due("level sets", z.act(14) + z.act(12), 8);
+        due("a tilt isn't on, whatever was", z.act(13), 4);
+        due("2 is set", z.place(2), 1);
+        z.by(NONE);
+        due("the last part counts", z.act(10), 1);
     }
 
     private static void ball() {
@@ -438,6 +483,13 @@ public final class PromiseTests {
         for (int i = 29; i >= 0; i--) due("undo", x.undo(), i);
         due("none left", x.undo(), NONE);
         due("the 31st latest stays", x.place(0), 1);
+        HiddenDrawers w = new HiddenDrawers();
+        for (int i = 0; i < 33; i++) w.act(12 + new int[] {2, 0, 1, 0}[i % 4]);
+        int[] balls = {0, 9, 9, 0};
+        for (int step = 32; step > 2; step--) {
+            w.undo();
+            due("the ball ahead of step " + step, w.now(1), balls[step % 4]);
+        }
         HiddenDrawers y = new HiddenDrawers();
         y.part(2);
         y.act(1);
@@ -507,6 +559,81 @@ public final class PromiseTests {
         due("729 are not too many", z.fewest(NONE), NONE);
         z.part(2);
         due("1458 are", z.fewest(NONE), SPENT);
+        HiddenDrawers v = desk("2", "open a=0;");
+        v.by(NONE);
+        v.act(1);
+        v.by(0);
+        due("back is an act, too", v.fewest(0), 0);
+        due("found once", v.fewest(1), NONE);
+        due("no such part yet", desk("2", "open b=1;").fewest(NONE), NONE);
+        HiddenDrawers u = desk("2", "open b=1;");
+        due("not yet", u.fewest(NONE), NONE);
+        u.part(2);
+        due("a part told changes it", u.fewest(NONE), 1);
+        u.back();
+        due("back changes it", u.fewest(NONE), NONE);
+        fewestLimit();
+    }
+
+    /**
+     * The standing that is found as the n-th: six PARTS of three PLACES by each of one or two laws,
+     * and TILT. With two, the first law moves PARTS while level, the second while tilted left.
+     */
+    private static int[] nthFound(int n, boolean two) {
+        java.util.List<int[]> found = new java.util.ArrayList<>();
+        java.util.Set<String> seen = new java.util.HashSet<>();
+        found.add(new int[13]);
+        seen.add(java.util.Arrays.toString(new int[13]));
+        for (int i = 0; found.size() < n; i++) {
+            for (int act = 0; act < 15; act++) {
+                int[] next = found.get(i).clone();
+                if (act >= 12) {
+                    next[12] = act - 12;
+                } else {
+                    for (int law = 0; law < (two ? 2 : 1); law++) {
+                        int at = 6 * law + act / 2;
+                        int to = next[at] + (act % 2 == 1 ? 1 : -1);
+                        if (to >= 0 && to <= 2 && (!two || next[12] == law)) next[at] = to;
+                    }
+                }
+                if (seen.add(java.util.Arrays.toString(next))) found.add(next);
+            }
+        }
+        return found.get(n - 1);
+    }
+
+    private static String openAt(int[] found, int law) {
+        StringBuilder text = new StringBuilder("open tilt=").append(found[12]);
+        for (int i = 0; i < 6; i++) text.append(" and ").append((char) ('a' + i)).append('=').append(found[6 * law + i]);
+        return text.append(';').toString();
+    }
+
+    private static int actsTo(int[] found) {
+        int acts = 0;
+        for (int i = 0; i < 6; i++) acts += found[i];
+        return acts + (found[12] == 0 ? 0 : 1);
+    }
+
+    private static void fewestLimit() {
+        for (int n = 999; n <= 1003; n++) {
+            int[] found = nthFound(n, false);
+            int want = n <= 1001 ? actsTo(found) : SPENT;
+            due("open as the " + n + "th standing", desk("333333", openAt(found, 0)).fewest(NONE), want);
+        }
+    }
+
+    private static void whateverLimit() {
+        for (int n = 2999; n <= 3003; n++) {
+            int[] found = nthFound(n, true);
+            String[] texts = {"", ""};
+            for (int law = 0; law < 2; law++) {
+                for (int part = 0; part < 6; part++) texts[law] += "when " + part + " tilt=" + law + ";";
+                texts[law] += openAt(found, law);
+            }
+            HiddenDrawers x = desk("333333", texts[0]);
+            tell(x, texts[1]);
+            due("open by both as the " + n + "th, or too many", x.whatever(3, NONE) == SPENT, n > 3001);
+        }
     }
 
     private static void promise16() {
@@ -523,6 +650,16 @@ public final class PromiseTests {
         due("from open to never", z.forever(), 1 << 1);
         HiddenDrawers w = desk("333333", "open a=2 and b=2 and c=2 and d=2 and e=2 and f=2 and tilt=2;");
         due("no limit", w.forever(), 0);
+        tell(w, "when 5 on=0;open f=1;");
+        w.by(1);
+        due("by another text", w.forever(), 0x6000 | 0x2AA);
+        w.by(0);
+        due("and by the first again", w.forever(), 0);
+        HiddenDrawers v = desk("3", "when 0 on=0;open a=0;");
+        v.by(NONE);
+        v.act(1);
+        v.by(0);
+        due("by pushing back", v.forever(), 0);
     }
 
     private static void promise17() {
@@ -588,6 +725,17 @@ public final class PromiseTests {
         due("0 can't, 1 is 1 by all; 3: 2, 1, 1", y.next(), 3);
         y.tried(1, 1);
         due("behind what was tried: 3 is 1 by all, 13: 0, 1, 1", y.next(), 13);
+        HiddenDrawers z = desk("22", "sound 1;");
+        for (int i = 1; i < 4; i++) tell(z, "sound 1;");
+        due("all alike: the lowest", z.next(), 0);
+        HiddenDrawers w = desk("22", "sound a;");
+        tell(w, "sound a*2;");
+        tell(w, "sound b*3;");
+        tell(w, "sound b*4+a;");
+        due("1: 1, 2, 0, 1; 3: 0, 0, 3, 4", w.next(), 1);
+        w.tried(1, 1);
+        due("1 and 4 fit", w.fits(), 9);
+        due("0: 0 by both; 1 can't; 2 can't; 3: 1, 5", w.next(), 3);
     }
 
     private static void promise21() {
@@ -618,6 +766,13 @@ public final class PromiseTests {
         due("for each", y.whatever(3, 2), SPENT);
         due("always open", y.whatever(2, NONE), 0);
         due("fewest has another limit", y.fewest(NONE), SPENT);
+        tell(y, "open 0=0;");
+        tell(y, "open 0=0;");
+        due("the lowest and the highest", y.whatever(12, NONE), 0);
+        due("of no text", y.whatever(0, NONE), NONE);
+        due("of a fifth", y.whatever(16, NONE), NONE);
+        due("below", y.whatever(-16, NONE), NONE);
+        whateverLimit();
     }
 
     private static void promise22() {
@@ -671,8 +826,12 @@ public final class PromiseTests {
             x.undo();
             x.undo();
             x.undo();
+            x.act(3);
+            x.act(3);
+            x.act(2);
             x.hollow(5);
             x.forget();
+            x.tried(3, 4);
             due("another text", tell(x, round == 0 ? "do 0;" : "open 1=1;"), 1);
             x.by(1);
             x.feed(0, 0, 0, 0, 0);
@@ -680,6 +839,8 @@ public final class PromiseTests {
             int[] about = {2, 1, 0, 2, 1, 1, 20};
             for (int what = 0; what < 7; what++) due("about " + what, x.about(what), about[what]);
             due("no third part", x.place(2), NONE);
+            due("nor is it pushed", x.act(5), NONE);
+            due("nor looked at", x.about(12), -2);
             due("place", x.place(0), 1);
             due("tilt", x.now(0), 2);
             due("ball", x.now(1), 9);
