@@ -117,7 +117,7 @@ public final class HiddenDrawers {
         lawless = new Law();
         reader = new Reader();
         rules = new Rules(desk.sizes);
-        search = new Search(rules);
+        search = new Search(rules, lawless);
         deadEnds = new DeadEnds(rules);
         triedEnds = new int[TEXTS];
         searched = NOTHING;
@@ -605,8 +605,13 @@ public final class HiddenDrawers {
         return PARTS * PLACES + tilt;
     }
 
-    /** The tokens of a tape, one by one. */
+    /** The tokens of a tape: found all at first, then come to one by one. */
     private static final class Tokens {
+        private final int[] kinds = new int[TAPE + 1];
+        private final int[] values = new int[TAPE + 1];
+        private final int[] starts = new int[TAPE + 1];
+        private int count;
+        private int come;
         private byte[] bytes = new byte[0];
         private int length;
         private int at;
@@ -614,25 +619,55 @@ public final class HiddenDrawers {
         int value;
         int start;
 
-        void begin(byte[] tapeBytes, int tapeLength) {
+        void find(byte[] tapeBytes, int tapeLength) {
             bytes = tapeBytes;
-            length = Math.min(tapeBytes.length, tapeLength);
+            length = Math.min(Math.min(tapeBytes.length, tapeLength), TAPE);
             at = 0;
+            count = 0;
+            come = 0;
+            for (int i = 0; i < TAPE && at < length; i++) {
+                if (bytes[at] == ' ' || bytes[at] == '\n') {
+                    at++;
+                } else {
+                    findOne(bytes[at]);
+                }
+            }
+            start = length;
+            add(END_OF_TAPE, 0);
         }
 
+        /** Behind the end of the tape it is come to again and again. */
         void advance() {
-            while (at < length && (bytes[at] == ' ' || bytes[at] == '\n')) {
-                at++;
+            int index = Math.min(come, count - 1);
+            if (index >= 0 && index < kinds.length) {
+                kind = kinds[index];
+                value = values[index];
+                start = starts[index];
+                come = index + 1;
             }
+        }
+
+        private void add(int tokenKind, int tokenValue) {
+            if (count < kinds.length) {
+                kinds[count] = tokenKind;
+                values[count] = tokenValue;
+                starts[count] = start;
+                count++;
+            }
+        }
+
+        private void findOne(int sign) {
             start = at;
-            if (at >= length) {
-                kind = END_OF_TAPE;
-            } else if (isLetter(bytes[at])) {
-                takeWord();
-            } else if (isDigit(bytes[at])) {
-                takeDigits();
+            at++;
+            if (isLetter(sign)) {
+                while (at < length && isLetter(bytes[at])) {
+                    at++;
+                }
+                add(at - start == 1 ? kindOfLetter(sign) : kindOfWord(), 0);
+            } else if (isDigit(sign)) {
+                findNumber(sign);
             } else {
-                takeSign(bytes[at]);
+                findSign(sign);
             }
         }
 
@@ -644,25 +679,27 @@ public final class HiddenDrawers {
             return sign >= '0' && sign <= '9';
         }
 
-        private void takeDigits() {
-            value = 0;
+        private void findNumber(int digit) {
+            int number = digit - '0';
             for (; at < length && isDigit(bytes[at]); at++) {
                 // Held just above all numbers, so that a long row of digits doesn't wrap around.
-                value = Math.min(value * 10 + bytes[at] - '0', MOST_NUMBER + 1);
+                number = Math.min(number * 10 + bytes[at] - '0', MOST_NUMBER + 1);
             }
-            kind = NUMBER;
+            add(NUMBER, number);
         }
 
-        private void takeWord() {
-            while (at < length && isLetter(bytes[at])) {
+        private void findSign(int sign) {
+            boolean longer = at < length && bytes[at] == '=';
+            if (longer && (sign == '<' || sign == '>')) {
                 at++;
-            }
-            int first = bytes[start];
-            if (at - start == 1) {
-                kind = first >= 'a' && first <= 'f' ? NAME_A + first - 'a' : NO_TOKEN;
+                add(sign == '<' ? AT_MOST : AT_LEAST, 0);
             } else {
-                kind = kindOfWord();
+                add(kindOfSign(sign), 0);
             }
+        }
+
+        private static int kindOfLetter(int letter) {
+            return letter >= 'a' && letter <= 'f' ? NAME_A + letter - 'a' : NO_TOKEN;
         }
 
         private int kindOfWord() {
@@ -694,15 +731,6 @@ public final class HiddenDrawers {
                 }
             }
             return true;
-        }
-
-        private void takeSign(int sign) {
-            at++;
-            kind = kindOfSign(sign);
-            if ((kind == LESS || kind == MORE) && at < length && bytes[at] == '=') {
-                at++;
-                kind = kind == LESS ? AT_MOST : AT_LEAST;
-            }
         }
 
         private static int kindOfSign(int sign) {
@@ -738,7 +766,7 @@ public final class HiddenDrawers {
     /** Reads a tape as a TEXT, up to its first FAULT. */
     private static final class Reader {
         private final Tokens tokens = new Tokens();
-        private Law law;
+        private Law law = new Law();
         private int fault;
         int faultPlace;
         // Operators that wait for what stands to their right.
@@ -757,7 +785,7 @@ public final class HiddenDrawers {
             law.clear();
             fault = 0;
             faultPlace = NONE;
-            tokens.begin(tapeBytes, tapeLength);
+            tokens.find(tapeBytes, tapeLength);
             tokens.advance();
             for (int clause = 0; clause <= CLAUSES && fault == 0 && tokens.kind != END_OF_TAPE; clause++) {
                 readClause(clause);
@@ -786,7 +814,7 @@ public final class HiddenDrawers {
             } else if (single) {
                 readRule(rule);
             } else if (word == WHEN) {
-                readWhen();
+                readRule(takeWhenPart());
             } else if (word == DO) {
                 law.addDo(takeNumber(ACTS - 1), clause);
                 takeToken(SEMICOLON);
@@ -795,14 +823,12 @@ public final class HiddenDrawers {
             }
         }
 
-        private void readWhen() {
+        private int takeWhenPart() {
             int part = takeNumber(PARTS - 1);
-            if (law.has(part)) {
+            if (fault == 0 && law.has(part)) {
                 blame(TWICE);
             }
-            if (fault == 0) {
-                readRule(part);
-            }
+            return part;
         }
 
         private void readSet(int word) {
@@ -843,6 +869,9 @@ public final class HiddenDrawers {
         }
 
         private void readRule(int rule) {
+            if (fault != 0 || rule < 0 || rule >= RULES) {
+                return;
+            }
             law.ruleStarts[rule] = law.codeLength;
             waitingCount = 0;
             nested = 0;
@@ -1151,7 +1180,9 @@ public final class HiddenDrawers {
             return top > 0 ? stack[top - 1] : 0;
         }
 
+        // Each side is a million at most, so that a product alone needs a long.
         private static int joined(int operator, int left, int right) {
+            long value;
             switch (operator) {
                 case OR:
                     return left | right;
@@ -1170,17 +1201,17 @@ public final class HiddenDrawers {
                 case UNLIKE:
                     return left != right ? 1 : 0;
                 case PLUS:
-                    return bounded((long) left + right);
+                    value = left + right;
+                    break;
                 case MINUS:
-                    return bounded((long) left - right);
+                    value = left - right;
+                    break;
                 case TIMES:
-                    return bounded((long) left * right);
+                    value = (long) left * right;
+                    break;
                 default:
-                    return right == 0 ? 0 : left / right;
+                    value = right == 0 ? 0 : left / right;
             }
-        }
-
-        private static int bounded(long value) {
             return (int) Math.max(-MOST_VALUE, Math.min(MOST_VALUE, value));
         }
     }
@@ -1204,8 +1235,10 @@ public final class HiddenDrawers {
         private int most;
         private int outcome;
 
-        Search(Rules deskRules) {
+        Search(Rules deskRules, Law lawAtFirst) {
             rules = deskRules;
+            first = lawAtFirst;
+            second = lawAtFirst;
         }
 
         /** For one law alone it is both the first and the second. */

@@ -66,6 +66,33 @@ public final class PlainDeskTests {
         if (!once(6)) due("image()", asked.image(), plain.image());
         int planned = once(3) ? 490 : 20 + upTo(160);
         while (calls < planned && !wrong) oneCall();
+        if (calls < 400) extremes();
+    }
+
+    private void extremes() {
+        for (int far : new int[] {Integer.MIN_VALUE, Integer.MIN_VALUE + 1, -1000000, 1000000, Integer.MAX_VALUE}) {
+            String of = "(" + far + ")";
+            due("part" + of, asked.part(far), plain.part(far));
+            due("end" + of, asked.end(far), plain.end(far));
+            due("fault" + of, asked.fault(far), plain.fault(far));
+            due("by" + of, asked.by(far) ? 1 : 0, plain.by(far) ? 1 : 0);
+            due("can" + of, asked.can(far) ? 1 : 0, plain.can(far) ? 1 : 0);
+            due("act" + of, asked.act(far), plain.act(far));
+            due("played" + of, asked.played(far), plain.played(far));
+            due("carts seed" + of, asked.carts(far, 5), plain.carts(far, 5));
+            due("carts n" + of, asked.carts(5, far), plain.carts(5, far));
+            due("place" + of, asked.place(far), plain.place(far));
+            due("now" + of, asked.now(far), plain.now(far));
+            due("fewest" + of, asked.fewest(far), plain.fewest(far));
+            due("tried act" + of, asked.tried(far, 0), plain.tried(far, 0));
+            due("tried heard" + of, asked.tried(0, far), plain.tried(0, far));
+            due("whatever texts" + of, asked.whatever(far, -1), plain.whatever(far, -1));
+            due("whatever i" + of, asked.whatever(1, far), plain.whatever(1, far));
+            due("hollow" + of, asked.hollow(far), plain.hollow(far));
+            due("measure all" + of, asked.measure(far, 0), plain.measure(far, 0));
+            due("measure i" + of, asked.measure(9, far), plain.measure(9, far));
+            due("about" + of, asked.about(far), plain.about(far));
+        }
     }
 
     private void tell(String text) {

@@ -82,6 +82,8 @@ public final class PromiseTests {
         HiddenDrawers x = new HiddenDrawers();
         for (int what = 0; what <= 6; what++) due("new about " + what, x.about(what), what == 2 ? NONE : 0);
         for (int what = 0; what <= 2; what++) due("new now " + what, x.now(what), 0);
+        due("new fewest", x.fewest(NONE), NONE);
+        due("new forever", x.forever(), 1 << 13 | 1 << 14);
         x.part(2);
         x.hollow(3);
         tell(x, "");
@@ -660,6 +662,11 @@ public final class PromiseTests {
         v.act(1);
         v.by(0);
         due("by pushing back", v.forever(), 0);
+        HiddenDrawers u = desk("22", "open a=1;");
+        tell(u, "when 0 b=0;when 1 on=1;open a=1;");
+        due("freely", u.forever(), 0);
+        u.by(1);
+        due("nothing is left of what was asked before", u.forever(), 1 << 3);
     }
 
     private static void promise17() {
@@ -854,6 +861,19 @@ public final class PromiseTests {
             due("tried", x.fits(), 1);
         }
         due("played still by the first text", x.played(0), NONE);
+        HiddenDrawers y = new HiddenDrawers();
+        y.act(14);
+        y.act(12);
+        y.image();
+        y.undo();
+        y.undo();
+        y.act(13);
+        y.act(12);
+        y.back();
+        y.undo();
+        due("the ball of a step, too", y.now(1), 9);
+        y.undo();
+        due("the ball of the first", y.now(1), 0);
     }
 
     private static void promise26() {
