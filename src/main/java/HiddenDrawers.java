@@ -1224,10 +1224,10 @@ public final class HiddenDrawers {
         private static final int SCATTER = 0x9E3779B1;
 
         private final Rules rules;
-        private final int[] firsts = new int[WHATEVER_STANDINGS + 1];
-        private final int[] seconds = new int[WHATEVER_STANDINGS + 1];
-        private final int[] cameFrom = new int[WHATEVER_STANDINGS + 1];
-        private final int[] cameBy = new int[WHATEVER_STANDINGS + 1];
+        private final int[] firsts = new int[WHATEVER_STANDINGS];
+        private final int[] seconds = new int[WHATEVER_STANDINGS];
+        private final int[] cameFrom = new int[WHATEVER_STANDINGS];
+        private final int[] cameBy = new int[WHATEVER_STANDINGS];
         private final int[] slots = new int[SLOTS];
         private int found;
         private Law first;
@@ -1250,7 +1250,7 @@ public final class HiddenDrawers {
             found = 0;
             outcome = NONE;
             reach(start, start, NONE, NONE);
-            for (int i = 0; i < found && outcome == NONE; i++) {
+            for (int i = 0; i < found && i < most && outcome == NONE; i++) {
                 for (int act = 0; act < ACTS && outcome == NONE; act++) {
                     int one = rules.standingOrSame(first, act, firsts[i]);
                     int other = first == second ? one : rules.standingOrSame(second, act, seconds[i]);
@@ -1266,8 +1266,8 @@ public final class HiddenDrawers {
             if (slots[slot] != 0) {
                 return;
             }
-            boolean open = rules.isOpen(first, one) && (first == second || rules.isOpen(second, other));
-            if (!open && found >= most) {
+            // One standing too many ends it even if that one is open.
+            if (found >= most) {
                 outcome = SPENT;
                 return;
             }
@@ -1277,7 +1277,7 @@ public final class HiddenDrawers {
             cameBy[found] = act;
             found++;
             slots[slot] = found;
-            if (open) {
+            if (rules.isOpen(first, one) && (first == second || rules.isOpen(second, other))) {
                 outcome = actsUntil(found - 1);
             }
         }
@@ -1345,12 +1345,12 @@ public final class HiddenDrawers {
             reachedCount = 0;
             hopefulCount = 0;
             reach(law, standing);
-            for (int i = 0; i < reachedCount; i++) {
+            for (int i = 0; i < reachedCount && i < STANDINGS; i++) {
                 for (int act = 0; act < ACTS; act++) {
                     follow(law, reached[i], act);
                 }
             }
-            for (int i = 0; i < hopefulCount; i++) {
+            for (int i = 0; i < hopefulCount && i < STANDINGS; i++) {
                 hopeWhereItCameFrom(hopeful[i]);
             }
             return hopelessActs(law, standing);

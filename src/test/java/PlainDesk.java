@@ -555,8 +555,8 @@ final class PlainDesk {
                 if (rows.containsKey(key(to))) continue;
                 List<Integer> row = new ArrayList<>(rows.get(key(from)));
                 row.add(act);
-                if (open(texts, to)) return row;
                 if (rows.size() == most) return List.of(SPENT);
+                if (open(texts, to)) return row;
                 rows.put(key(to), row);
                 queue.add(to);
             }
