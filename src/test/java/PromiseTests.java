@@ -1,83 +1,5 @@
 /** Each promise of the document by plain examples, with its edges and with wrong inputs. */
-public final class PromiseTests {
-    private static final int NONE = HiddenDrawers.NONE;
-    private static final int SPENT = HiddenDrawers.SPENT;
-    private static int wrong = 0;
-    private static int asked = 0;
-
-    private static void due(String what, int got, int want) {
-        asked++;
-        if (got != want) {
-            wrong++;
-            System.out.println(what + ": answered " + got + ", due is " + want);
-        }
-    }
-
-    private static void due(String what, boolean got, boolean want) {
-        due(what, got ? 1 : 0, want ? 1 : 0);
-    }
-
-    private static void fill(HiddenDrawers x, String tape) {
-        x.end(0);
-        for (int from = 0; from < tape.length(); from += 20) {
-            int[] words = new int[5];
-            for (int i = 0; i < 20 && from + i < tape.length(); i++) {
-                words[i / 4] |= tape.charAt(from + i) << 24 - 8 * (i % 4);
-            }
-            x.feed(words[0], words[1], words[2], words[3], words[4]);
-        }
-        x.end(tape.length());
-    }
-
-    private static int tell(HiddenDrawers x, String text) {
-        fill(x, text);
-        return x.text();
-    }
-
-    /** A desk with a PART for each digit (its PLACES), ruled by the text. */
-    private static HiddenDrawers desk(String places, String text) {
-        HiddenDrawers x = new HiddenDrawers();
-        for (int i = 0; i < places.length(); i++) x.part(places.charAt(i) - '0');
-        due("text: " + text, tell(x, text), 0);
-        x.by(0);
-        return x;
-    }
-
-    private static String times(int n, String text) {
-        StringBuilder all = new StringBuilder();
-        for (int i = 0; i < n; i++) all.append(text);
-        return all.toString();
-    }
-
-    private static void faulty(String text, int kind, int place) {
-        HiddenDrawers x = new HiddenDrawers();
-        due("text of " + text, tell(x, text), NONE);
-        due("fault of " + text, x.fault(0), kind);
-        due("its place in " + text, x.fault(1), place);
-    }
-
-    private static void lawful(String text) {
-        HiddenDrawers x = new HiddenDrawers();
-        due("text of " + text, tell(x, text), 0);
-        due("fault of " + text, x.fault(0), 0);
-        due("its place in " + text, x.fault(1), NONE);
-    }
-
-    /** What a SUM comes to: heard digit by digit, so it is asked by comparisons. */
-    private static void comesTo(String sum, int value) {
-        String literal = value < 0 ? "-(" + literal(-value) + ")" : literal(value);
-        HiddenDrawers x = desk("3", "open " + sum + "=" + literal + ";");
-        due(sum + " is " + value, x.now(2), 1);
-    }
-
-    private static String literal(int value) {
-        return value <= 9999 ? String.valueOf(value) : value / 1000 + "*1000+" + value % 1000;
-    }
-
-    private static void holds(String either, int value) {
-        due(either, desk("3", "open " + either + ";").now(2), value);
-    }
-
+public final class PromiseTests extends Checks {
     private static void promise1() {
         HiddenDrawers x = new HiddenDrawers();
         for (int what = 0; what <= 6; what++) due("new about " + what, x.about(what), what == 2 ? NONE : 0);
@@ -574,78 +496,6 @@ public final class PromiseTests {
         due("a part told changes it", u.fewest(NONE), 1);
         u.back();
         due("back changes it", u.fewest(NONE), NONE);
-        fewestLimit();
-    }
-
-    /**
-     * The standing that is found as the n-th: six PARTS of three PLACES by each of one or two laws,
-     * and TILT. With two, the first law moves PARTS while level, the second while tilted left.
-     */
-    private static int[] nthFound(int n, boolean two) {
-        java.util.List<int[]> found = new java.util.ArrayList<>();
-        java.util.Set<String> seen = new java.util.HashSet<>();
-        found.add(new int[13]);
-        seen.add(java.util.Arrays.toString(new int[13]));
-        for (int i = 0; found.size() < n; i++) {
-            for (int act = 0; act < 15; act++) {
-                int[] next = found.get(i).clone();
-                if (act >= 12) {
-                    next[12] = act - 12;
-                } else {
-                    for (int law = 0; law < (two ? 2 : 1); law++) {
-                        int at = 6 * law + act / 2;
-                        int to = next[at] + (act % 2 == 1 ? 1 : -1);
-                        if (to >= 0 && to <= 2 && (!two || next[12] == law)) next[at] = to;
-                    }
-                }
-                if (seen.add(java.util.Arrays.toString(next))) found.add(next);
-            }
-        }
-        return found.get(n - 1);
-    }
-
-    private static String openAt(int[] found, int law) {
-        StringBuilder text = new StringBuilder("open tilt=").append(found[12]);
-        for (int i = 0; i < 6; i++) text.append(" and ").append((char) ('a' + i)).append('=').append(found[6 * law + i]);
-        return text.append(';').toString();
-    }
-
-    private static int actsTo(int[] found) {
-        int acts = 0;
-        for (int i = 0; i < 6; i++) acts += found[i];
-        return acts + (found[12] == 0 ? 0 : 1);
-    }
-
-    /** The lowest PART that is to be moved is pushed on first; without one the desk is tilted. */
-    private static int firstActTo(int[] found) {
-        for (int i = 0; i < 6; i++) {
-            if (found[i] > 0) return 2 * i + 1;
-        }
-        return 12 + found[12];
-    }
-
-    private static void fewestLimit() {
-        for (int n = 999; n <= 1003; n++) {
-            int[] found = nthFound(n, false);
-            HiddenDrawers x = desk("333333", openAt(found, 0));
-            due("open as the " + n + "th standing", x.fewest(NONE), n <= 1000 ? actsTo(found) : SPENT);
-            due("its first act, or too many", x.fewest(0), n <= 1000 ? firstActTo(found) : SPENT);
-        }
-    }
-
-    private static void whateverLimit() {
-        for (int n = 2999; n <= 3003; n++) {
-            int[] found = nthFound(n, true);
-            String[] texts = {"", ""};
-            for (int law = 0; law < 2; law++) {
-                for (int part = 0; part < 6; part++) texts[law] += "when " + part + " tilt=" + law + ";";
-                texts[law] += openAt(found, law);
-            }
-            HiddenDrawers x = desk("333333", texts[0]);
-            tell(x, texts[1]);
-            due("open by both as the " + n + "th, or too many", x.whatever(3, NONE) == SPENT, n > 3000);
-            due("for each act", x.whatever(3, 0) == SPENT, n > 3000);
-        }
     }
 
     private static void promise16() {
@@ -789,7 +639,6 @@ public final class PromiseTests {
         due("of no text", y.whatever(0, NONE), NONE);
         due("of a fifth", y.whatever(16, NONE), NONE);
         due("below", y.whatever(-16, NONE), NONE);
-        whateverLimit();
     }
 
     private static void promise22() {
@@ -931,7 +780,6 @@ public final class PromiseTests {
         promise24();
         promise25();
         promise26();
-        System.out.println(wrong == 0 ? asked + " answers are as due" : wrong + " answers are not as due");
-        if (wrong != 0) System.exit(1);
+        end();
     }
 }
