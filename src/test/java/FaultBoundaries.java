@@ -97,6 +97,13 @@ final class FaultBoundaries extends Boundaries {
         }
     }
 
+    static void promise06_fault1In300Tokens() {
+        faulty(times(300, ";"), 1, 0);
+        faulty(times(300, "!"), 1, 0);
+        faulty("do 1;" + times(295, ";"), 1, 5);
+        faulty("sound" + times(147, "1+") + "1", 1, 300);
+    }
+
     static void promise06_fault1OfALoneLetter() {
         for (int letter = 'A'; letter <= 'z'; letter++) {
             boolean name = letter >= 'a' && letter <= 'f';
@@ -137,6 +144,77 @@ final class FaultBoundaries extends Boundaries {
         faulty("do ;", 1, 3);
         faulty(";", 1, 0);
         faulty("do 1;;", 1, 5);
+    }
+
+    private static final String[] TOKENS = ("when with tilt sound open stops do to set or and not on part at a b c d e f g "
+        + "<= >= < > = # + - * / ( ) ; 0").split(" ");
+
+    /** The kind of the FAULT if it is at this TOKEN, put where the n-th stands; 0 if it can stand there. */
+    private static int faultAt(String text, int n, String token) {
+        String[] all = text.split(" ");
+        all[n] = token;
+        HiddenDrawers x = new HiddenDrawers();
+        tell(x, String.join(" ", all));
+        int place = 0;
+        for (int i = 0; i < n; i++) place += all[i].length() + 1;
+        due("no fault ahead of " + n + " in " + text, x.fault(1) == NONE || x.fault(1) >= place, true);
+        return x.fault(1) == place ? x.fault(0) : 0;
+    }
+
+    /** At the n-th place of the text these can stand, of those each is FAULT 5, all others are FAULT 1. */
+    private static void canStand(String text, int n, String these, String names) {
+        for (String token : TOKENS) {
+            boolean stands = (" " + these + " ").contains(" " + token + " ");
+            boolean name = (" " + names + " ").contains(" " + token + " ");
+            due(token + " as the token " + n + " of " + text, faultAt(text, n, token), stands ? 0 : name ? 5 : 1);
+        }
+    }
+
+    static void promise06_fault1OfEachTokenAmongNumbers() {
+        String[] clauses = {"with 0 to 0 set 0 to 0 ;", "tilt 0 set 0 to 0 ;", "do 0 ;"};
+        for (String clause : clauses) {
+            String[] all = clause.split(" ");
+            for (int n = 1; n < all.length; n++) canStand(clause, n, all[n], "");
+        }
+        canStand("when 0 a = 1 ;", 1, "0", "");
+    }
+
+    static void promise06_fault1OfEachTokenAsAClause() {
+        canStand("do 0 ;", 0, "when with tilt sound open stops do", "");
+        canStand("do 0 ; do 0 ;", 3, "when with tilt sound open stops do", "");
+    }
+
+    static void promise06_fault1OfEachTokenInAnEither() {
+        String ones = "a b c d e f tilt 0 ( -";
+        String[] clauses = {"open a = 1 ;", "stops a = 1 ;"};
+        for (String clause : clauses) {
+            String names = clause.startsWith("open") ? "on part at" : "on part";
+            String own = clause.startsWith("open") ? "" : " at";
+            canStand(clause, 1, ones + " not" + own, names);
+            canStand(clause, 2, "< <= > >= = # + - * /", "");
+            canStand(clause, 3, ones + own, names);
+            canStand(clause, 4, "; and or + - * /", "");
+        }
+        canStand("when 0 a = 1 ;", 2, ones + " not on", "part at");
+        canStand("when 0 a = 1 ;", 4, ones + " on", "part at");
+        canStand("open a = 1 and b = 2 ;", 5, ones + " not", "on part at");
+        canStand("open a = 1 or b = 2 ;", 6, "< <= > >= = # + - * /", "");
+        canStand("open not a = 1 ;", 2, ones + " not", "on part at");
+        canStand("open ( a ) = 1 ;", 2, ones, "on part at");
+        canStand("open ( a ) = 1 ;", 3, ") + - * /", "");
+        canStand("open a = ( 1 ) ;", 5, ") + - * /", "");
+        canStand("open - a = 1 ;", 2, ones, "on part at");
+        canStand("open a + b = 1 ;", 3, ones, "on part at");
+    }
+
+    static void promise06_fault1OfEachTokenInASum() {
+        String ones = "a b c d e f tilt on part 0 ( -";
+        canStand("sound a ;", 1, ones, "at");
+        canStand("sound a ;", 2, "; + - * /", "");
+        canStand("sound ( a ) ;", 2, ones, "at");
+        canStand("sound ( a ) ;", 3, ") + - * /", "");
+        canStand("sound ( a ) ;", 4, "; + - * /", "");
+        for (String sign : new String[] {"+", "-", "*", "/"}) canStand("sound a " + sign + " b ;", 3, ones, "at");
     }
 
     static void promise06_fault1InASum() {

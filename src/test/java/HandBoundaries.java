@@ -48,6 +48,14 @@ final class HandBoundaries extends Boundaries {
         due("tape", y.about(6), 19);
     }
 
+    static void promise01_theObjectCanBeUsedForAll512Calls() {
+        HiddenDrawers x = new HiddenDrawers();
+        x.part(2);
+        for (int call = 2; call < 511; call++) due("call " + call, x.act(1 - call % 2), 1);
+        due("call 511", x.place(0), 1);
+        due("call 512", x.undo(), 29);
+    }
+
     static void promise02_2and3PlacesAreTaken() {
         HiddenDrawers x = new HiddenDrawers();
         due("2", x.part(2), 0);
@@ -292,6 +300,12 @@ final class HandBoundaries extends Boundaries {
         due("a push ahead", x.act(1), 6);
         due("a tilt", x.act(13), 2);
         due("a tilt to level", x.act(12), 2);
+    }
+
+    static void promise09_onIs1ForEachPushOnAnd0ForEachBack() {
+        HiddenDrawers x = desk("222222", "sound 3+on;");
+        for (int part = 0; part < 6; part++) due("on", x.act(2 * part + 1), 4);
+        for (int part = 0; part < 6; part++) due("back", x.act(2 * part), 3);
     }
 
     static void promise09_partIsWhichIsPushed() {
@@ -633,6 +647,17 @@ final class HandBoundaries extends Boundaries {
         for (int act : new int[] {14, 13, 12}) {
             x.act(act);
             due("tilt", x.now(0), act - 12);
+        }
+    }
+
+    static void promise14_tiltIsSoWithAllPartsAtTheirLastPlace() {
+        HiddenDrawers x = desk("333333", "open a+b+c+d+e+f=12;");
+        for (int part = 0; part < 6; part++) act(x, 2 * part + 1, 2 * part + 1);
+        for (int act : new int[] {12, 13, 14}) {
+            x.act(act);
+            due("tilt", x.now(0), act - 12);
+            due("open", x.now(2), 1);
+            for (int part = 0; part < 6; part++) due("place", x.place(part), 2);
         }
     }
 

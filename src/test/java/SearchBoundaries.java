@@ -68,6 +68,26 @@ final class SearchBoundaries extends Boundaries {
         due("taken back", x.fewest(NONE), 1);
     }
 
+    static void promise15_aPartToldSinceCounts() {
+        HiddenDrawers x = desk("2", "open b=1;");
+        due("not told", x.fewest(NONE), NONE);
+        x.part(2);
+        due("told", x.fewest(NONE), 1);
+        x.by(NONE);
+        due("by none", x.fewest(NONE), NONE);
+        x.by(0);
+        due("ruled again", x.fewest(0), 3);
+    }
+
+    static void promise15_nothingIsLeftOfAnEarlierSearch() {
+        HiddenDrawers x = desk("222222", "open 1=2;");
+        tell(x, "when0c=1;when1c=1;when2 1=2;when3 1=2;when4 1=2;when5 1=2;open a=1 or b=1;");
+        due("all standings", x.fewest(NONE), NONE);
+        x.by(1);
+        due("three standings", x.fewest(NONE), NONE);
+        due("likewise whatever rules", x.whatever(2, NONE), NONE);
+    }
+
     static void promise15_changesNothing() {
         changesNothing("how many", x -> x.fewest(NONE), 1);
         changesNothing("the first", x -> x.fewest(0), 13);
@@ -187,6 +207,26 @@ final class SearchBoundaries extends Boundaries {
         for (int part = 0; part < 6; part++) act(x, 2 * part + 1);
         act(x, 14);
         due("all pushes back, and 12, 13", x.forever(), 0x555 | 1 << 12 | 1 << 13);
+    }
+
+    static void promise16_manyActsCanLeadToOpen() {
+        HiddenDrawers x = desk("333", "open b=2 and c=2;when 0 on=1;");
+        act(x, 1, 13);
+        due("four acts", x.forever(), 0);
+        x = desk("33", "open b=2;when 1 a=0;when 0 on=1;");
+        due("a shuts it", x.forever(), 1 << 1);
+    }
+
+    static void promise16_nothingIsLeftOfWhatWasAskedBefore() {
+        HiddenDrawers x = desk("22", "open a=1;");
+        tell(x, "when 0 b=0;when 1 on=1;open a=1;");
+        due("freely", x.forever(), 0);
+        x.by(1);
+        due("b shuts it", x.forever(), 1 << 3);
+        x.by(0);
+        due("freely again", x.forever(), 0);
+        x = desk("333333", ALL_AT_2);
+        for (int i = 0; i < 4; i++) due("2187 standings again", x.forever(), 0);
     }
 
     static void promise16_itHasNoLimit() {
@@ -352,6 +392,14 @@ final class SearchBoundaries extends Boundaries {
         HiddenDrawers x = desk("222", "");
         tell(x, "when 1 1=2;when 2 1=2;");
         due("3 and 5 tell alike", x.next(), 3);
+    }
+
+    static void promise20_fourAlikeTheLowest() {
+        HiddenDrawers x = desk("2", "");
+        for (int i = 1; i < 4; i++) tell(x, "");
+        due("all alike", x.next(), 0);
+        x.tried(0, NONE);
+        due("still", x.next(), 0);
     }
 
     static void promise20_theHighestActCanTellMost() {

@@ -99,6 +99,23 @@ final class TextBoundaries extends Boundaries {
         due("has no do", x.played(2), NONE);
     }
 
+    static void promise04_whatWasCutOffIsNotReadOn() {
+        cutOff("dox", 2, 1, 2);
+        cutOff("do 15", 4, 1, 4);
+        cutOff("open 1<=1;", 7, 1, 7);
+        cutOff("do 1;!", 5, 0, NONE);
+        cutOff("do 1;do", 5, 0, NONE);
+    }
+
+    private static void cutOff(String tape, int n, int fault, int place) {
+        HiddenDrawers x = new HiddenDrawers();
+        fill(x, tape);
+        x.end(n);
+        x.text();
+        due("fault of " + tape + " to " + n, x.fault(0), fault);
+        due("its place", x.fault(1), place);
+    }
+
     static void promise05_theTapeIsEmptyThen() {
         HiddenDrawers x = new HiddenDrawers();
         fill(x, "do 1;");
@@ -222,6 +239,19 @@ final class TextBoundaries extends Boundaries {
         int[][] due = {{1, 0, 0}, {1, 1, 0}, {0, 0, 1}, {0, 1, 1}, {0, 1, 0}, {1, 0, 1}};
         for (int sign = 0; sign < signs.length; sign++) {
             for (int left = 4; left <= 6; left++) holds(left + signs[sign] + 5, due[sign][left - 4]);
+        }
+    }
+
+    static void promise05_eachComparisonInNotAndOr() {
+        for (String so : new String[] {"1<2", "1<=2", "2<=2", "2>1", "2>=1", "2>=2", "2=2", "1#2"}) {
+            holds("not " + so, 0);
+            holds("not not " + so, 1);
+            for (String other : new String[] {"1<2", "2>=2", "3#4", "not 1=2"}) {
+                holds(so + " and " + other, 1);
+                holds(other + " and " + so, 1);
+                holds(so + " or " + other, 1);
+                holds("not " + so + " or not " + so, 0);
+            }
         }
     }
 
@@ -363,6 +393,39 @@ final class TextBoundaries extends Boundaries {
         lawful("sound 1-1-1-1-1-1-1-1-1-1-1;");
         lawful("sound -1--1*-1/-1+-1--1*-1/-1+-1--1;");
         lawful("sound " + deep + ";open " + deep + "=1;stops " + deep + "=1;when 0 " + times(8, "-") + "1=1;");
+    }
+
+    static void promise05_whatAFaultyTextLeftOpenIsOpenNoMore() {
+        HiddenDrawers x = new HiddenDrawers();
+        x.part(2);
+        String[] faulty = {"sound ((((((((", "open not not not not not not not not", "sound --------", "open 1=1 or 1+2*(3-", "stops -((1=",
+            "sound -", "open not"};
+        for (String one : faulty) {
+            due(one, tell(x, one), NONE);
+            due("behind " + one, tell(x, "open (((((((1)))))))=-1*-1 and " + times(8, "not ") + "1=1;sound --------2*3+4;"), 0);
+            x.by(0);
+            due("open", x.now(2), 1);
+            due("sound", x.act(13), 9);
+            x.back();
+            x.part(2);
+        }
+    }
+
+    static void promise05_longFaultyTextsLeaveRoom() {
+        HiddenDrawers x = new HiddenDrawers();
+        for (int i = 0; i < 5; i++) due("faulty", tell(x, "sound 1" + times(146, "+1") + "!"), NONE);
+        due("text", tell(x, "sound 7" + times(146, "-0") + ";"), 0);
+        x.by(0);
+        due("heard", x.act(13), 7);
+    }
+
+    static void promise05_fourLongTextsAreKept() {
+        HiddenDrawers x = new HiddenDrawers();
+        for (int i = 0; i < 4; i++) due("text", tell(x, "sound 0" + times(145, "+0") + "+" + (i + 1) + ";"), i);
+        for (int i = 0; i < 4; i++) {
+            x.by(i);
+            due("heard", x.act(i % 2 == 0 ? 13 : 12), i + 1);
+        }
     }
 
     static void promise05_ofAFaultyTextNothingStays() {
