@@ -568,6 +568,25 @@ final class SearchBoundaries extends Boundaries {
         }
     }
 
+    static void promise21_standingsThatAreAlikeByOneTextAreTwo() {
+        // Drawn until taking two of them for one would have lost the way.
+        HiddenDrawers x = desk("333333", "open a=0 and b=1 and c=1 and d=0 and e=0 and f=0 and tilt=1;when 0 tilt>0 and e=2;"
+            + "when 4 tilt#0 and tilt=2;when 5 b#2;tilt 0 set 0 to 1;tilt 1 set 1 to 0;tilt 2 set 1 to 2;tilt 2 set 3 to 1;"
+            + "with 2 to 2 set 0 to 0;");
+        tell(x, "open a=0 and b=0 and c=0 and d=1 and e=0 and f=0 and tilt=1;when 0 b=1;when 1 b<0;when 2 b<2 and e#0;"
+            + "when 4 c#0 and a+on>1;when 5 tilt#1 and c+on=1;with 4 to 0 set 3 to 0;with 5 to 0 set 2 to 2;");
+        int[] acts = {5, 7, 7, 14, 6, 13, 3};
+        due("how many", x.whatever(3, NONE), acts.length);
+        for (int i = 0; i < acts.length; i++) due("act " + i, x.whatever(3, i), acts[i]);
+        x.image();
+        for (int text = 0; text < 2; text++) {
+            x.back();
+            x.by(text);
+            act(x, acts);
+            due("open by " + text, x.now(2), 1);
+        }
+    }
+
     static void promise21_noneIfItCanNotBeOpen() {
         HiddenDrawers x = desk("22", "open 1=2;");
         tell(x, "");
@@ -591,6 +610,17 @@ final class SearchBoundaries extends Boundaries {
         tell(x, "when0tilt=1and a+on<2;when1tilt=1and b+on<2;when2tilt=1and c+on<2;when3 1=2;when4 1=2;when5 1=2;");
         due("how many", x.whatever(3, NONE), NONE);
         due("first", x.whatever(3, 0), NONE);
+    }
+
+    static void promise21_3001StandingsNoneOpenIsSpent() {
+        // Drawn until there were 3001; a standing taken for another one would make it NONE.
+        HiddenDrawers x = desk("322233", "when 0 tilt=1 and a+on#2;when 1 tilt>1 and tilt#0;when 2 d>1 and e+on<2;when 3 e<2;"
+            + "when 4 d#0;when 5 a>0 and e#0;tilt 0 set 5 to 1;tilt 0 set 4 to 1;with 1 to 2 set 3 to 2;tilt 0 set 2 to 1;"
+            + "tilt 2 set 1 to 0;tilt 1 set 0 to 2;");
+        tell(x, "when 0 a>1 and tilt#2;when 1 tilt<1;when 2 tilt#0;when 3 tilt>0 and b+on<1;when 4 b<1 and tilt<2;"
+            + "when 5 b>2 and a>1;with 2 to 1 set 3 to 1;tilt 1 set 1 to 1;tilt 2 set 5 to 0;with 1 to 1 set 4 to 1;");
+        due("how many", x.whatever(3, NONE), SPENT);
+        due("first", x.whatever(3, 0), SPENT);
     }
 
     static void promise21_3003StandingsNoneOpenIsSpent() {
