@@ -49,7 +49,7 @@ public final class ReadmeTests extends Checks {
 
     private static void everyCallIsShown(String rows) {
         for (Method method : HiddenDrawers.class.getDeclaredMethods()) {
-            boolean shown = rows.contains("desk." + method.getName() + "(");
+            boolean shown = Pattern.compile("(?m)^desk\\." + method.getName() + "\\(").matcher(rows).find();
             if (Modifier.isPublic(method.getModifiers())) due("README.md shows " + method.getName(), shown, true);
         }
     }
